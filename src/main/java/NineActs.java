@@ -755,7 +755,6 @@ public final class NineActs {
         int tokenAt;
         int tokenValue;
         int next;
-        int taken;
 
         Script() {
             text = new char[MOST_BYTES];
@@ -775,7 +774,9 @@ public final class NineActs {
             advance();
             int items = 0;
             while (token != END && items < MOST_BYTES) {
-                if (!tellItem(draft)) {
+                boolean isAct = token == WORD_ACT && draft.size < MOST_ACTS;
+                boolean good = isAct ? tellAct(draft) : tellFeud(draft);
+                if (!good) {
                     return -10 - tokenAt;
                 }
                 items++;
@@ -783,109 +784,111 @@ public final class NineActs {
             return items;
         }
 
-        // Each part answers false with its token being the one that can't stand there.
-        private boolean tellItem(Cast draft) {
-            if (token == WORD_ACT && draft.size < MOST_ACTS) {
-                advance();
-                Act one = draft.members[draft.size];
-                one.forget();
-                if (!tellFigures(one) || !tellStage(one) || !tellTone(one) || !tellTrain(one)) {
-                    return false;
-                }
-                if (!take(SEMICOLON)) {
-                    return false;
-                }
-                draft.size++;
-                return true;
+        // Each part begins at its first token and ends behind its last one; it answers false at
+        // the token that can't stand there.
+        private boolean tellAct(Cast draft) {
+            Act one = draft.members[draft.size];
+            one.forget();
+            advance();
+            if (!tellFigures(one) || !tellStage(one)) {
+                return false;
             }
-            return take(WORD_FEUD) && tellFeud(draft) && take(SEMICOLON);
+            tellTone(one);
+            if (!tellTrain(one) || token != SEMICOLON) {
+                return false;
+            }
+            draft.size++;
+            advance();
+            return true;
         }
 
         private boolean tellFigures(Act one) {
-            if (!takeNumber(0, MOST_KIND)) {
+            if (!isNumber(0, MOST_KIND)) {
                 return false;
             }
-            one.kind = taken;
-            if (!takeNumber(1, MOST_LONG)) {
+            one.kind = tokenValue;
+            advance();
+            if (!isNumber(1, MOST_LONG)) {
                 return false;
             }
-            one.minutes = taken;
-            if (!takeNumber(0, MOST_STRENGTH)) {
+            one.minutes = tokenValue;
+            advance();
+            if (!isNumber(0, MOST_STRENGTH)) {
                 return false;
             }
-            one.strength = taken;
+            one.strength = tokenValue;
+            advance();
             return true;
         }
 
         private boolean tellStage(Act one) {
-            if (take(WORD_FRONT)) {
+            if (token == WORD_FRONT) {
                 one.front = true;
+                advance();
                 return true;
             }
-            if (!take(WORD_SET)) {
+            if (token != WORD_SET) {
                 return true;
             }
-            if (!takeNumber(0, MOST_SET)) {
+            advance();
+            if (!isNumber(0, MOST_SET)) {
                 return false;
             }
-            one.set = taken;
-            if (!takeNumber(0, MOST_SET)) {
+            one.set = tokenValue;
+            advance();
+            if (!isNumber(0, MOST_SET)) {
                 return false;
             }
-            one.strike = taken;
+            one.strike = tokenValue;
+            advance();
             return true;
         }
 
-        private boolean tellTone(Act one) {
-            if (take(WORD_SAD)) {
-                one.tone = SAD;
-            } else if (take(WORD_LOUD)) {
-                one.tone = LOUD;
+        private void tellTone(Act one) {
+            if (token == WORD_SAD || token == WORD_LOUD) {
+                one.tone = token == WORD_SAD ? SAD : LOUD;
+                advance();
             }
-            return true;
         }
 
         private boolean tellTrain(Act one) {
-            if (!take(WORD_TRAIN)) {
+            if (token != WORD_TRAIN) {
                 return true;
             }
-            if (!takeNumber(1, MOST_TRAIN)) {
+            advance();
+            if (!isNumber(1, MOST_TRAIN)) {
                 return false;
             }
-            one.train = taken;
+            one.train = tokenValue;
+            advance();
             return true;
         }
 
         private boolean tellFeud(Cast draft) {
-            if (!takeNumber(0, draft.size - 1)) {
+            if (token != WORD_FEUD) {
                 return false;
             }
-            int first = taken;
-            if (token == NUMBER && tokenValue == first) {
+            advance();
+            if (!isNumber(0, draft.size - 1)) {
                 return false;
             }
-            if (!takeNumber(0, draft.size - 1)) {
+            int first = tokenValue;
+            advance();
+            if (!isNumber(0, draft.size - 1) || tokenValue == first) {
                 return false;
             }
-            draft.fallOut(first, taken);
-            return true;
-        }
-
-        private boolean take(int wanted) {
-            if (token != wanted) {
+            int second = tokenValue;
+            advance();
+            if (token != SEMICOLON) {
                 return false;
             }
+            draft.fallOut(first, second);
             advance();
             return true;
         }
 
-        private boolean takeNumber(int least, int most) {
-            if (token != NUMBER || tokenValue < least || tokenValue > most) {
-                return false;
-            }
-            taken = tokenValue;
-            advance();
-            return true;
+        private boolean isNumber(int least, int most) {
+            return token == NUMBER && tokenValue >= least && tokenValue <= most;
         }
 
         private void advance() {
@@ -1081,12 +1084,15 @@ public final class NineActs {
         void applaud(int p, int luck) {
             int heat = p > 0 ? heatBehind[p - 1] : tunes[FIRST_HEAT];
             int crowd = p > 0 ? people[p - 1] : tunes[FIRST_PEOPLE];
-            if (pausesAhead(p)) {
+            boolean paused = pausesAhead(p);
+            if (paused) {
                 ices = crowd * heat / 1000;
                 heat = heat / 2;
             }
             heat = Math.max(0, heat - tunes[CHILL] * gap[p]);
-            heat = Math.max(0, heat - damping(p));
+            if (p > 0 && !paused) {
+                heat = Math.max(0, heat - damping(row[p - 1].tone, row[p].tone));
+            }
             int loudness = Math.max(0, clapsBy(p, heat) + luck);
             heatAt[p] = heat;
             claps[p] = loudness;
@@ -1099,12 +1105,7 @@ public final class NineActs {
             return p > 0 && p == pause;
         }
 
-        private int damping(int p) {
-            if (p == 0 || pausesAhead(p)) {
-                return 0;
-            }
-            int tone = row[p].tone;
-            int ahead = row[p - 1].tone;
+        private static int damping(int ahead, int tone) {
             if (tone == ahead && tone != PLAIN) {
                 return 10;
             }
@@ -1112,16 +1113,13 @@ public final class NineActs {
         }
 
         private int clapsBy(int p, int heat) {
+            int seats = 10;
+            if (p < 2) {
+                seats = p == 0 ? tunes[SEATS] : (tunes[SEATS] + 10) / 2;
+            }
             int warm = row[p].strength * (100 + heat) / 100;
             int tired = p > 5 ? tunes[TIRED] * (p - 5) : 0;
-            return Math.max(0, warm * seatsAt(p) / 10 - tired);
-        }
-
-        private int seatsAt(int p) {
-            if (p == 0) {
-                return tunes[SEATS];
-            }
-            return p == 1 ? (tunes[SEATS] + 10) / 2 : 10;
+            return Math.max(0, warm * seats / 10 - tired);
         }
 
         int total() {

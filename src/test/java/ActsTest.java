@@ -111,6 +111,12 @@ public final class ActsTest {
         c.due("a capital behind letters", Check.fault("aCt 0 1 1;"), -10);
         c.due("a capital behind a word", Check.fault("actA 0 1 1;"), -10 - 3);
         c.due("a longer word", Check.fault("acts 0 1 1;"), -10);
+        c.due("a word and z", Check.fault("actz 0 1 1;"), -10);
+        c.due("a word and a", Check.fault("acta 0 1 1;"), -10);
+        c.due("the sign behind z", Check.fault("act{ 0 1 1;"), -10 - 3);
+        c.due("the sign ahead of a", Check.fault("act` 0 1 1;"), -10 - 3);
+        c.due("the sign behind 9", Check.fault("act 0 1 1:"), -10 - 9);
+        c.due("the sign ahead of 0", Check.fault("act 0 1 1/;"), -10 - 9);
         c.due("a shorter word", Check.fault("ac 0 1 1;"), -10);
         c.due("a longer tone", Check.fault("act 0 1 1 saddle;"), -10 - 10);
         c.due("251", Check.fault("act 0 251 1;"), -10 - 6);
@@ -148,6 +154,12 @@ public final class ActsTest {
         c.due("sad, then front", Check.fault("act 0 1 1 sad front;"), -10 - 14);
         c.due("sad, then loud", Check.fault("act 0 1 1 sad loud;"), -10 - 14);
         c.due("train, then sad", Check.fault("act 0 1 1 train 1 sad;"), -10 - 18);
+        c.due("train first", Check.fault("act 0 1 1;act 0 1 1;train 0 1;"), -10 - 20);
+        c.due("feud in an act", Check.fault("act 0 1 1 feud 5;"), -10 - 10);
+        c.due("set for a tone", Check.fault("act 0 1 1 front set;"), -10 - 16);
+        c.due("loud for a stage", Check.fault("act 0 1 1 loud 1 1;"), -10 - 15);
+        c.due("a word for a number", Check.fault("act act 1 1;"), -10 - 4);
+        c.due("; for a number", Check.fault("act ;"), -10 - 4);
         c.due("act in an act", Check.fault("act 0 1 1 act 0 1 1;"), -10 - 10);
         c.due("two ;", Check.fault("act 0 1 1;;"), -10 - 10);
         c.due("feud of none", Check.fault("feud 0 1;"), -10 - 5);

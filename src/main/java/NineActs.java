@@ -1047,6 +1047,11 @@ public final class NineActs {
         Show() {
             tunes = TUNE_AT_FIRST.clone();
             row = new Act[MOST_ROW];
+            // A place where no act was seated yet is not null, so that none need be tested for it.
+            Act nobody = new Act(MOST_ACTS);
+            for (int p = 0; p < MOST_ROW; p++) {
+                row[p] = nobody;
+            }
             gap = new int[MOST_ROW];
             start = new int[MOST_ROW];
             end = new int[MOST_ROW];
@@ -1179,6 +1184,10 @@ public final class NineActs {
 
         Search() {
             pool = new Act[MOST_SEARCHED];
+            Act nobody = new Act(MOST_ACTS);
+            for (int k = 0; k < MOST_SEARCHED; k++) {
+                pool[k] = nobody;
+            }
             home = new int[MOST_SEARCHED];
         }
 

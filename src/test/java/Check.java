@@ -1,14 +1,42 @@
+import java.io.IOException;
+import java.nio.file.Files;
+import java.nio.file.Path;
+
 /** What every test of the project shares: it counts wrong answers and types texts. */
 final class Check {
+    private static final Path DOCUMENT = Path.of("../shared/DOC.md");
+
     private int wrong = 0;
     private int asked = 0;
+    private String document = "";
+    private String sentence = "";
 
     void due(String call, long got, long want) {
         asked++;
         if (got != want) {
             wrong++;
-            System.out.println(call + " answered " + got + ", due is " + want);
+            System.out.println(sentence + call + " answered " + got + ", due is " + want);
         }
+    }
+
+    /** What follows tests these words of the document; they must stand there. */
+    void says(String words) {
+        sentence = "";
+        if (Files.exists(DOCUMENT)) {
+            due("the document says \"" + words + "\"", document().contains(words) ? 1 : 0, 1);
+        }
+        sentence = "\"" + words + "\": ";
+    }
+
+    private String document() {
+        if (document.isEmpty()) {
+            try {
+                document = Files.readString(DOCUMENT).replaceAll("\\s+", " ");
+            } catch (IOException e) {
+                document = "could not be read";
+            }
+        }
+        return document;
     }
 
     /** Prints how many answers were wrong, and ends the program if there was one. */
@@ -46,6 +74,18 @@ final class Check {
         NineActs x = told(text);
         for (int k = 0; k < order.length(); k++) {
             x.place(order.charAt(k) - '0');
+        }
+        return x;
+    }
+
+    /** A bill of all acts of a text, with tunes given as what, v, what, v .. */
+    static NineActs tuned(String text, int... tunes) {
+        NineActs x = told(text);
+        for (int i = 0; i < x.count(0); i++) {
+            x.place(i);
+        }
+        for (int k = 0; k + 1 < tunes.length; k += 2) {
+            x.tune(tunes[k], tunes[k + 1]);
         }
         return x;
     }

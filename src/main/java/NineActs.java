@@ -1296,8 +1296,9 @@ public final class NineActs {
             reduce();
         }
 
-        // The marks at a place less as often its mean; all lower numbers together stay small, as
-        // there are sixty marks at most.
+        // The marks at a place less as often its mean. Ahead of its reduction the fraction may be
+        // wider than an int, so it is held in longs; reduced it fits an int, as sixty marks make
+        // places whose least common multiple is 1021020 at most.
         private void addPlace(int i, int p) {
             int allTimes = 0;
             int allClaps = 0;

@@ -22,6 +22,7 @@ public final class EdgesOfMarksTest {
         partedInLeastTerms();
         partedOfManyPlaces();
         partedOfAllMarks();
+        partedWide();
         openerFewest();
         openerNone();
         holdRefused();
@@ -178,6 +179,35 @@ public final class EdgesOfMarksTest {
         // 99 less 59 times 99 by 60 is 99 by 60.
         parted("59 of 60", x, 0, 33, 20);
         parted("one of 60", x, 1, -59 * 33, 20);
+    }
+
+    // Sixty marks by which the fraction is as wide as can be: 97 is in none of the lower numbers.
+    private static NineActs wide(int[] own, int[] others) {
+        NineActs x = Check.told(NINE);
+        for (int p = 0; p < own.length; p++) {
+            for (int k = 0; k < own[p]; k++) {
+                x.mark(0, p, 97);
+            }
+            for (int k = 0; k < others[p]; k++) {
+                x.mark(8, p, 0);
+            }
+        }
+        c.due("all marks are used", x.count(3), 60);
+        return x;
+    }
+
+    private static void partedWide() {
+        c.says("a fraction");
+        // 97 times (3/4 and 20/9 and 6/5 and 12/7 and 30/11 and 42/13 and 30/11), which is by 180180:
+        // the second 11 makes it wider than an int ahead of its reduction.
+        NineActs x = wide(new int[] {1, 4, 3, 3, 5, 6, 5}, new int[] {3, 5, 2, 4, 6, 7, 6});
+        parted("wide on the way", x, 0, 97 * 2625551, 180180 * 27);
+        parted("wide on the way, below 0", x, 8, -97 * 2625551, 180180 * 33);
+        // 97 times (3/4 and 2/3 and 6/5 and 12/7 and 30/11 and 42/13 and 72/17), by 1021020, the most that
+        // sixty marks can make.
+        x = wide(new int[] {1, 1, 3, 3, 5, 6, 8}, new int[] {3, 2, 2, 4, 6, 7, 9});
+        parted("a great upper number", x, 0, 1438470133, 1021020 * 27);
+        parted("a great upper number, below 0", x, 8, -1438470133, 1021020 * 33);
     }
 
     private static void openerFewest() {
